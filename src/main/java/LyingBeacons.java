@@ -14,7 +14,7 @@ public final class LyingBeacons {
     private static final int MOST_NEEDED = 9, LONGEST_SPAN = 9;
     private static final int MOST_WOOD = 99;
     private static final int NEVER = 60, UNWRITTEN = -1;
-    /** More sets than ten hills have. */
+    /** As many sets as ten hills have. */
     private static final int SETS = 1024;
     /** Nine hills that wait nine minutes each, and the EAR's nine, end below this minute. */
     private static final int REACH = 100;
@@ -782,10 +782,9 @@ public final class LyingBeacons {
         private final int[] sees = new int[HILLS];
         private final int[] needs = new int[HILLS];
         private final int[] span = new int[HILLS];
-        /** Of each minute the hills that burn in it, as bits. */
+        /** Of each minute up to the last one looked at the hills that burn in it, as bits. */
         private final int[] lit = new int[REACH];
-        /** Of each hill the minute from which it burns, or NONE. */
-        private final int[] from = new int[HILLS];
+        private int lastMinute = 0;
 
         Council() {
         }
@@ -872,7 +871,12 @@ public final class LyingBeacons {
         }
 
         int burnsFrom(int hill) {
-            return hill >= 0 && hill < HILLS ? from[hill] : NONE;
+            for (int minute = 1; minute <= lastMinute && minute < REACH; minute++) {
+                if ((lit[minute] >> hill & 1) != 0) {
+                    return minute;
+                }
+            }
+            return NONE;
         }
 
         /** The starters burn from minute 1 on: the minute up to which the listener's rule held first; NONE. */
@@ -880,29 +884,22 @@ public final class LyingBeacons {
             int waiting = folk & ~silent & ~starters;
             int burning = starters;
             int lastChange = 1;
-            startFrom(starters);
             // Behind the longest span without a change nothing can change any more.
             for (int minute = 1; minute < REACH && minute <= lastChange + LONGEST_SPAN; minute++) {
                 lit[minute] = burning;
+                lastMinute = minute;
                 if (ruleHeld(listener, minute)) {
                     return minute;
                 }
                 for (int h = 0; h < HILLS; h++) {
                     if ((waiting >> h & 1) != 0 && ruleHeld(h, minute)) {
-                        waiting &= ~(1 << h);
                         burning |= 1 << h;
-                        from[h] = minute + 1;
                         lastChange = minute + 1;
                     }
                 }
+                waiting &= ~burning;
             }
             return NONE;
-        }
-
-        private void startFrom(int starters) {
-            for (int h = 0; h < HILLS; h++) {
-                from[h] = (starters >> h & 1) != 0 ? 1 : NONE;
-            }
         }
 
         /** Who burns here goes on burning, so the first of the minutes tells them all. */

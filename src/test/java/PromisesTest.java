@@ -49,6 +49,7 @@ public final class PromisesTest {
         burnsAndSeen();
         nightByRules();
         nightOfLiars();
+        minutesToldTwice();
         wood();
         alarm();
         falseBy();
@@ -128,6 +129,9 @@ public final class PromisesTest {
         faultIs("h,0;", 0);
         faultIs("h0,0;", 0);
         faultIs("h00;h01;h02;", NONE);
+        faultIs("h0;w0,:;", 3);
+        faultIs("h0;w0,/;", 3);
+        faultIs("h0;w0,5:;", 3);
         faultIs("h000;", 0);
         faultIs("h0;v", 3);
         faultIs("h0; h0;", 3);
@@ -310,6 +314,20 @@ public final class PromisesTest {
         x = laid("h0;h0;v0,1;l0,2,4;r1,1,3;");
         due("8: three minutes of a liar", x.seen(4), 1);
         due("8: held up to the minute ahead", x.seen(5), 2);
+    }
+
+    private static void minutesToldTwice() {
+        LyingBeacons x = laid("h1;h0;v0,1;s0,3,6;s0,5,9;");
+        x.ship(1, 0, 0);
+        due("8: asleep by two items", x.seen(6), 2);
+        due("8: asleep by the second", x.seen(9), 2);
+        x = laid("h0;l0,3,6;l0,5,9;");
+        due("8: a lie of two items", x.seen(6), 1);
+        due("8: ten minutes less three", x.wood(0), 99 - 7);
+        x = laid("h1;h0;v0,1;g0,1,0,6;g1,0,5,9;");
+        x.ship(1, 0, 0);
+        due("8: mist of two items, both ways", x.seen(10), 1);
+        due("8: behind it", x.seen(11), 3);
     }
 
     private static void wood() {
