@@ -1,40 +1,6 @@
 /** For each promise of the document ordinary inputs, the edges it names, and wrong inputs. */
-public final class PromisesTest {
-    private static final int BAD = LyingBeacons.BAD, NO = LyingBeacons.NO;
-    private static final int FULL = LyingBeacons.FULL, NONE = LyingBeacons.NONE;
+public final class PromisesTest extends Bench {
     private static final String DIAMOND = "h1;h0;h0;h2;v0,1;v0,2;v1,3;v2,3;v1,2;r3,2,1;";
-    private static int wrong = 0;
-
-    private static void due(String what, int got, int want) {
-        if (got != want) {
-            wrong++;
-            System.out.println(what + " answered " + got + ", due is " + want);
-        }
-    }
-
-    private static void put(LyingBeacons x, String text) {
-        x.wipe();
-        for (int i = 0; i < text.length(); i++) {
-            x.write(1, text.charAt(i));
-        }
-    }
-
-    private static LyingBeacons laid(String text) {
-        LyingBeacons x = new LyingBeacons();
-        put(x, text);
-        if (x.lay() < 0) {
-            wrong++;
-            System.out.println("not laid: " + text + ", fault at " + x.fault());
-        }
-        return x;
-    }
-
-    private static void faultIs(String text, int want) {
-        LyingBeacons x = new LyingBeacons();
-        put(x, text);
-        due("fault of " + text, x.fault(), want);
-        due("lay of " + text, x.lay() == NO ? NO : 0, want == NONE ? 0 : NO);
-    }
 
     public static void main(String[] args) {
         newObject();
@@ -71,10 +37,7 @@ public final class PromisesTest {
         unbelieved();
         keepAndBack();
         count();
-        System.out.println(wrong == 0 ? "all promises are kept" : wrong + " answers are not as due");
-        if (wrong != 0) {
-            System.exit(1);
-        }
+        end();
     }
 
     private static void newObject() {
