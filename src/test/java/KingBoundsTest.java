@@ -277,7 +277,7 @@ public final class KingBoundsTest extends Bench {
 
     /** "KEPT are what is LAID, SHIPS, LOGS". */
     private static void laidShipAndLogsAreKept() {
-        LyingBeacons x = laid("h1;h0;h2;h3;v0,1;v1,2;r1,1,2;w1,9;s2,3,5;g1,2,7,8;l0,40,41;");
+        LyingBeacons x = laid("h1;h0;h2;h3;v0,1;v1,2;r1,1,2;w1,9;s2,3,5;g1,2,7,8;l1,40,41;");
         x.ship(1, 5, 5);
         x.log(0, 60);
         x.log(3, 0);

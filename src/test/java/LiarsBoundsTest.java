@@ -213,6 +213,11 @@ public final class LiarsBoundsTest extends Bench {
     private static void theRing() {
         LyingBeacons x = laid("h0;h2;h0;h0;h3;h1;v0,1;v0,2;v2,3;v3,4;v4,5;");
         due("13: up to the spare, without the ear", x.falseFor(1, 2), 13);
+        due("13: by the bits of one", x.falseFor(1, 1), 1);
+        x = laid(hills("0000000002") + "v9,0;v0,1;v1,2;v2,3;v3,4;v4,5;v5,6;v6,7;v7,8;");
+        due("13: by each of nine down to the first", x.falseFor(1, 0), 9);
+        due("12: by the last down to the first", x.falseBy(256), 1);
+        due("13: all nine burn", x.falseFor(1, 2), 511);
         x = laid("h0;h0;h0;h2;v0,1;v0,2;v1,2;v0,3;r2,2,1;");
         due("13: by two at once", x.falseFor(1, 2), 7);
         x = laid("h0;h0;h0;h2;v0,1;v0,2;v0,3;r2,2,1;");
@@ -322,6 +327,11 @@ public final class LiarsBoundsTest extends Bench {
         due("15: the only one gone", laid("h1;h2;v0,1;").late(0, 1), NONE);
         due("15: none is there", laid("h1;h2;").late(0, 1), NONE);
         due("15: one beside the way gone", laid("h1;h1;h2;v0,1;v0,2;v1,2;").late(0, 1), 2);
+        due("15: the only one gone, the ear first", laid("h2;h1;v0,1;").late(0, 1), NONE);
+        due("15: the only one gone, of the last two", laid("h0;h2;h1;v1,2;").late(0, 1), NONE);
+        due("15: the only one gone, of the last two, told backwards", laid("h0;h1;h2;v2,1;").late(0, 1), NONE);
+        due("15: between relays", laid("h2;h0;h0;h1;v3,2;v2,1;v1,0;v3,1;r1,1,2;").late(0, 1), NONE);
+        due("15: between relays, two ways", laid("h2;h0;h0;h1;v3,2;v2,1;v1,0;v3,1;v2,0;").late(0, 1), 2);
     }
 
     /** "so many or, where there are fewer, all". */
@@ -437,6 +447,8 @@ public final class LiarsBoundsTest extends Bench {
         due("6: m as told", x.hill(2, 3), 9);
         due("15: still as told", x.late(0, 0), NONE);
         due("12: still as told", x.falseBy(3), 0);
+        due("17: for the first hill, too", laid("h0;h1;h2;v1,0;v0,2;r0,9,9;").bestRule(0, 1), 2);
+        due("17: for the last hill, too", laid(hills("1200000000") + "v0,9;v9,1;r9,9,9;").bestRule(0, 1), 2);
     }
 
     /** Promise 17: "NONE". */
@@ -486,6 +498,8 @@ public final class LiarsBoundsTest extends Bench {
     private static void addedNobodyOrAll() {
         due("18: no spare, none wanted", laid("h1;h2;v0,1;").added(0), 0);
         due("18: spares, none wanted", laid("h1;h3;h2;v0,1;v1,2;v0,2;").added(0), 0);
+        due("18: the first hill", laid("h3;h1;h2;v0,1;v0,2;").added(0), 1);
+        due("18: the last hill", laid(hills("1200000003") + "v0,9;v1,9;").added(0), 512);
         LyingBeacons x = laid(hills("1333333332") + chain(9));
         due("18: all eight", x.added(0), 510);
         due("18: all eight again", x.added(0), 510);

@@ -295,6 +295,9 @@ public final class LogsBoundsTest extends Bench {
         due("20: by one of two", logged("h1;h0;v0,1;r1,2,1;", 0, 59).logs(3), 2);
         due("20: not through a spare", logged("h1;h3;h0;v0,1;v1,2;", 0, 0, 59).logs(3), 4);
         due("20: not through the ear", logged("h1;h2;h0;v0,1;v1,2;", 0, 0, 59).logs(3), 4);
+        due("20: the first hill in time", logged("h0;h1;v0,1;", 1, 0).logs(3), 0);
+        due("20: the first hill too soon", logged("h0;h1;v0,1;", 0, 0).logs(3), 1);
+        due("20: through the first hill", logged("h0;h1;h0;v0,1;v0,2;", 60, 0, 2).logs(3), 0);
         due("20: through another head", logged("h1;h1;h0;v0,1;v1,2;r1,9,9;", 0, -1, 1).logs(3), 0);
         due("20: the farthest of ten", logged(hills("1000000000") + chain(9), 0, 1, 2, 3, 4, 5, 6, 7, 8, 9).logs(3), 0);
         due("20: each of nine too soon", logged(hills("1000000000") + chain(9), 1, 1, 2, 3, 4, 5, 6, 7, 8, 9).logs(3), 1022);

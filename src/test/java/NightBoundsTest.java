@@ -269,7 +269,9 @@ public final class NightBoundsTest extends Bench {
         burning("8: all night", laid(BESIDE_A_FIRE + "g0,1,0,59;"), 1);
         burning("8: all but the last that counts", laid(BESIDE_A_FIRE + "g0,1,0,57;"), 1, 59, 59);
         burning("8: all that count", laid(BESIDE_A_FIRE + "g0,1,0,58;"), 1);
-        burning("8: by two items", laid(BESIDE_A_FIRE + "g0,1,0,5;g1,0,4,9;"), 1, 11, 59);
+        for (String two : new String[] {"g0,1,0,5;g1,0,4,9;", "g1,0,0,5;g0,1,4,9;", "g0,1,0,5;g0,1,4,9;", "g1,0,4,9;g1,0,0,5;"}) {
+            burning("8: by two items, " + two, laid(BESIDE_A_FIRE + two), 1, 11, 59);
+        }
         burning("8: three minutes on end behind mist", laid(BESIDE_A_FIRE + "r1,1,3;g0,1,2,2;"), 1, 6, 59);
         burning("8: three minutes on end ahead of mist", laid(BESIDE_A_FIRE + "r1,1,3;g0,1,3,3;"), 1, 3, 59);
         due("11: mist in 59", laid("h0;h2;v0,1;l0,59,59;g0,1,59,59;").alarm(), NONE);

@@ -45,6 +45,7 @@ public final class TextBoundsTest extends Bench {
 
         layTellsHowManyHills();
         layForgetsLogsAndShip();
+        layForgetsWhatWasLaid();
         layWithAFaultLeavesWhatIsLaid();
         hillTellsFiveThings();
         hillIsOneThatIsLaid();
@@ -202,6 +203,12 @@ public final class TextBoundsTest extends Bench {
         add(x, "h3;");
         due("3: nothing of what was wiped", x.lay(), 1);
         due("3: but the new one", x.hill(0, 0), 3);
+        put(x, "h0;h0;v0,1;");
+        put(x, "h0");
+        due("3: no end from what was wiped", x.fault(), 0);
+        put(x, "h0;w0,7;");
+        put(x, "h0;w0,");
+        due("3: no number from what was wiped", x.fault(), 3);
     }
 
     /** Promise 4: "FAULT. NONE." */
@@ -520,6 +527,43 @@ public final class TextBoundsTest extends Bench {
         x.lay();
         due("5: no ship from earlier", x.seen(59), 0);
         due("5: no log from earlier", x.count(6), 0);
+    }
+
+    private static String told(LyingBeacons x) {
+        x.ship(1, 20, 20);
+        StringBuilder s = new StringBuilder();
+        for (int h = 0; h < 5; h++) {
+            for (int what = 0; what <= 4; what++) {
+                s.append(x.hill(h, what)).append(' ');
+            }
+        }
+        for (int minute = 0; minute < 60; minute++) {
+            s.append(x.seen(minute)).append(' ');
+        }
+        for (int what = 0; what <= 7; what++) {
+            s.append(x.count(what)).append(' ');
+        }
+        return s.append(x.alarm()).toString();
+    }
+
+    /** Promise 5: "LAID": nothing of what was laid, asked or refused ahead of it. */
+    private static void layForgetsWhatWasLaid() {
+        String plain = "h1;h0;h0;h2;v0,1;v1,2;v2,3;";
+        String crowded = "h1;h0;h0;h2;v0,1;v0,2;v1,2;v2,3;r0,9,9;r1,2,1;r2,1,9;r3,1,4;w0,5;w1,6;w2,7;w3,8;"
+            + "s0,0,5;s1,20,30;s2,0,59;s3,0,59;g0,1,0,59;g2,1,0,59;g3,2,0,59;l1,0,4;l2,7,7;";
+        String want = told(laid(plain));
+        LyingBeacons x = laid(crowded);
+        due("5: another night ahead", !told(x).equals(want));
+        put(x, plain);
+        due("5: laid", x.lay(), 4);
+        due("5: nothing of what was laid", told(x).equals(want));
+        x = new LyingBeacons();
+        put(x, crowded + "h0;");
+        due("4: a fault behind all that", x.fault(), crowded.length());
+        due("5: not laid", x.lay(), NO);
+        put(x, plain);
+        due("5: laid", x.lay(), 4);
+        due("5: nothing of what was refused", told(x).equals(want));
     }
 
     /** Promise 5: "NO: a FAULT." */
