@@ -725,6 +725,9 @@ public final class LyingBeacons {
         }
 
         private boolean isFired(Net net, int h, int minute) {
+            if (h < 0 || h >= HILLS) {
+                return false;
+            }
             if (net.lies[h] != 0) {
                 return (net.lies[h] >>> minute & 1L) != 0;
             }
